@@ -13,6 +13,7 @@ public final class LawsTest {
         rule();
         dust();
         first();
+        undoneLawsAreGone();
         CHECK.end();
     }
 
@@ -215,6 +216,24 @@ public final class LawsTest {
         SmallFirst most = Check.house("", "Aa;".repeat(11) + "Hg");
         CHECK.due("7: the last of 12", most.dust(11, 0) * 10 + most.dust(11, 1), 76);
         CHECK.due("7: behind it", most.dust(12, 0), SmallFirst.BAD);
+    }
+
+    // Rows of an object are used again: nothing of an undone law or dust may be left in them.
+    private static void undoneLawsAreGone() {
+        SmallFirst x = Check.house("a+A;a+B", "Aa;Ab");
+        for (int i = 0; i < 4; i++) {
+            x.undo(0);
+        }
+        for (int i = 0; i < 3; i++) {
+            x.undo(1);
+        }
+        CHECK.due("4: laws", x.count(0), 1);
+        CHECK.due("4: laws with +", x.count(6), 1);
+        CHECK.due("4: two", x.two(), SmallFirst.NONE);
+        CHECK.due("4: comes", x.comes(1), 1);
+        CHECK.due("4: rule", x.rule(1, 0), SmallFirst.BAD);
+        CHECK.due("4: lays", x.lays(1), 1);
+        CHECK.due("4: dust", x.dust(1, 0), SmallFirst.BAD);
     }
 
     private static void first() {

@@ -119,6 +119,9 @@ public final class PlansTest {
         CHECK.due("20: what d", x.play(1, 1, 1), 3);
         x.lay(0, 0, 0);
         CHECK.due("20: no layings", x.play(1, 0, 0), 1);
+        x.first(Check.bits("ch"));
+        CHECK.due("20: h is swept", x.play(1, 2, 1), 7);
+        playsOfAllSets();
         SmallFirst y = Check.house("a+A;b+A;c+A", "");
         CHECK.due("20: two of three", y.play(2, 0, 0), 0);
         y.first(Check.bits("b"));
@@ -131,6 +134,25 @@ public final class PlansTest {
         CHECK.due("20: big 8", x.play(0, 8, 0), SmallFirst.BAD);
         CHECK.due("20: what -1", x.play(0, 0, -1), SmallFirst.BAD);
         CHECK.due("20: what 2", x.play(0, 0, 2), SmallFirst.BAD);
+    }
+
+    // The plain reading plays from the last turn back, for all sets at once.
+    private static void playsOfAllSets() {
+        String laws = "ab+A;cd+A;e-A;c+B;fg-B;a+B;h+C;ah-C";
+        SmallFirst x = Check.house(laws, "");
+        Plain plain = new Plain();
+        plain.typeAll(0, laws);
+        for (int set = 0; set < 256; set += 3) {
+            x.first(set);
+            plain.first(set);
+            for (int n = 0; n <= 4; n++) {
+                for (int big = 0; big < 3; big++) {
+                    String row = "20: of " + set + ", n " + n + ", big " + big;
+                    CHECK.due(row, x.play(n, big, 0), plain.play(n, big, 0));
+                    CHECK.due(row + ", what", x.play(n, big, 1), plain.play(n, big, 1));
+                }
+            }
+        }
     }
 
     private static void steady() {

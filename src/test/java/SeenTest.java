@@ -54,6 +54,9 @@ public final class SeenTest {
         CHECK.due("25: an empty one", x.read(0), 0);
         x.sheet(0, 0, 1);
         CHECK.due("25: a half", x.read(0), 0);
+        x.sheet(0, 0, 2);
+        CHECK.due("25: just one", x.read(0), 1);
+        x.forget();
         x.sheet(0, 0, 5);
         x.put(0, 0, 0, 1);
         x.put(0, 0, 1, 1);
@@ -111,6 +114,10 @@ public final class SeenTest {
         CHECK.due("26: B is not by b", x.stands(1, 0), 0);
         CHECK.due("26: none for B", x.stands(1, 1), SmallFirst.NONE);
         CHECK.due("26: e for H", x.stands(7, 1), Check.bits("e"));
+        SmallFirst y = new SmallFirst();
+        y.seen(Check.bits("ac"), Check.bits("A"));
+        y.seen(Check.bits("bc"), Check.bits("A"));
+        CHECK.due("26: c, though a and b are less as bits", y.stands(0, 1), Check.bits("c"));
         CHECK.due("26: big -1", x.stands(-1, 0), SmallFirst.BAD);
         CHECK.due("26: big 8", x.stands(8, 0), SmallFirst.BAD);
         CHECK.due("26: what -1", x.stands(0, -1), SmallFirst.BAD);
@@ -139,6 +146,10 @@ public final class SeenTest {
         y.seen(Check.bits("defgh"), 0);
         y.seen(Check.bits("ab"), Check.bits("H"));
         CHECK.due("27: c is in half of six", y.watch(7), 2);
+        SmallFirst z = new SmallFirst();
+        z.seen(Check.bits("bcdefgh"), Check.bits("A"));
+        z.seen(Check.bits("a"), 0);
+        CHECK.due("27: a is in none, b in 64 of 127", z.watch(0), 1);
     }
 
     private static void moved() {
@@ -213,6 +224,10 @@ public final class SeenTest {
         CHECK.due("31: A came once", x.lot(0, 2, 0), 1);
         CHECK.due("31: E came once", x.lot(0, 2, 4), 1);
         CHECK.due("31: C came once", x.lot(0, 2, 2), 1);
+        x.first(Check.bits("ah"));
+        CHECK.due("31: a is swept", x.lot(0, 1, SmallFirst.NONE), 0);
+        CHECK.due("31: A did not come", x.lot(0, 1, 0), 0);
+        x.first(Check.bits("h"));
         x.lay(0, 0, 1);
         x.lay(1, 2, 0);
         CHECK.due("31: no layings", x.lot(0, 1, SmallFirst.NONE), Check.bits("c"));
@@ -222,5 +237,21 @@ public final class SeenTest {
         CHECK.due("31: big -2", x.lot(0, 0, -2), SmallFirst.BAD);
         CHECK.due("31: big 8", x.lot(0, 0, 8), SmallFirst.BAD);
         CHECK.due("31: FIRST stays", x.count(7), 128);
+        manyLots();
+    }
+
+    private static void manyLots() {
+        String laws = "a+A;b+B;c+C;d+D;e+E;f+F;g+G;h+H";
+        String dust = "Ab;Bc;Cd;De;Ef;Fg;Gh;Ha";
+        SmallFirst x = Check.house(laws, dust);
+        Plain plain = new Plain();
+        plain.typeAll(0, laws);
+        plain.typeAll(1, dust);
+        for (int seed : new int[] {Integer.MIN_VALUE, -1, 0, 1, 7, 65536, Integer.MAX_VALUE}) {
+            for (int n = 0; n <= 99; n += 11) {
+                CHECK.due("31: of seed " + seed, x.lot(seed, n, -1), plain.lot(seed, n, -1));
+                CHECK.due("31: H by seed " + seed, x.lot(seed, n, 7), plain.lot(seed, n, 7));
+            }
+        }
     }
 }

@@ -38,6 +38,9 @@ public final class SheetsTest {
         CHECK.due("32: it is as it was", x.get(3, 2, 59), 7);
         CHECK.due("32: anew", x.sheet(3, 2, 60), 60);
         CHECK.due("32: its items are 0", x.get(3, 2, 59), 0);
+        x.put(3, 2, 0, 8);
+        CHECK.due("32: anew, shorter", x.sheet(3, 2, 1), 1);
+        CHECK.due("32: its only item is 0", x.get(3, 2, 0), 0);
         CHECK.due("32: of another form", x.sheet(3, 1, 5), 5);
         CHECK.due("32: it is of that form", x.get(3, 1, 4), 0);
     }
@@ -266,5 +269,22 @@ public final class SheetsTest {
         x.type(0, ';');
         p.type(0, ';');
         CHECK.due("39: with a fault", x.digest(), p.digest());
+        digestOf("a+B;b+C;c+D;d+E;e+F;f+G;g+H;h+A", "Aa;Bb;Cc;Dd;Ee;Ff;Gg;Hh", 3);
+        digestOf("a+A;b+B;c+C;d+D;e+E;f+F;g+G;h+H", "Ab;Bc;Cd;De;Ea;Fg;Gf;Ha", 200);
+        digestOf("ab+A;bc+B;cd+C;de+D;ef+E;a-C;fg+F;gh+G;b-G;ah+H", "Aa;Ab;Bc;Cd;De;Ef;Fg;Gh;Ha;Hb", 255);
+        digestOf("d+D;c+C;b+B", "Dc;Cb;Ba;Bd", 8);
+        digestOf("a+A;b+B;c+C;d+D;e+E", "Ab;Ba;Cd;De;Ec", 5);
+        digestOf("a+A;b+B;c+C;d+D", "Ad;Da;Bb;Cc", 5);
+        digestOf("a+A;b+A;c-A;d-A;e+B;f-B", "Ae;Bf;Ba", 179);
+    }
+
+    private static void digestOf(String laws, String dust, int first) {
+        SmallFirst x = Check.house(laws, dust);
+        Plain p = new Plain();
+        p.typeAll(0, laws);
+        p.typeAll(1, dust);
+        x.first(first);
+        p.first(first);
+        CHECK.due("39: of " + laws + " and " + dust, x.digest(), p.digest());
     }
 }
