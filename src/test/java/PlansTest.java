@@ -139,10 +139,10 @@ public final class PlansTest {
     // The plain reading plays from the last turn back, for all sets at once.
     private static void playsOfAllSets() {
         String laws = "ab+A;cd+A;e-A;c+B;fg-B;a+B;h+C;ah-C";
-        SmallFirst x = Check.house(laws, "");
         Plain plain = new Plain();
         plain.typeAll(0, laws);
         for (int set = 0; set < 256; set += 3) {
+            SmallFirst x = Check.house(laws, "");
             x.first(set);
             plain.first(set);
             for (int n = 0; n <= 4; n++) {

@@ -1,69 +1,77 @@
 import java.lang.reflect.Method;
 import java.util.Arrays;
-import java.util.Comparator;
 import java.util.Random;
 
-/** Runs of calls by fixed seeds, each answer compared with the plain reading of the document. */
+/**
+ * Runs of calls by fixed seeds, each answer compared with the plain reading of the document. A run is as long
+ * as the document allows, 512 calls, and ends with the digest.
+ */
 public final class RandomRunsTest {
     private static final Check CHECK = new Check("RandomRunsTest");
+    private static final Method[] CALLS = Calls.all();
+    private static final int MOST_CALLS = 512;
     private static final int[] EDGES = {Integer.MIN_VALUE, -2, -1, 0, 1, 2, 3, 7, 8, 9, 10, 16, 17,
         29, 30, 60, 61, 99, 100, 255, 256, Integer.MAX_VALUE};
 
-    public static void main(String[] args) throws Exception {
+    private final int seed;
+    private final Random random;
+    private final SmallFirst x = new SmallFirst();
+    private final Plain plain = new Plain();
+    private int asked = 0;
+
+    private RandomRunsTest(int seed) {
+        this.seed = seed;
+        random = new Random(seed);
+    }
+
+    public static void main(String[] args) {
         int runs = Integer.getInteger("runs", 120);
         for (int seed = 0; seed < runs; seed++) {
-            run(seed);
+            new RandomRunsTest(seed).run();
         }
         CHECK.end();
     }
 
-    private static Method[] calls() {
-        Method[] calls = Arrays.stream(SmallFirst.class.getDeclaredMethods())
-            .filter(m -> java.lang.reflect.Modifier.isPublic(m.getModifiers())).toArray(Method[]::new);
-        Arrays.sort(calls, Comparator.comparing(Method::getName));
-        return calls;
-    }
-
-    private static void run(int seed) throws Exception {
-        Random random = new Random(seed);
-        SmallFirst x = new SmallFirst();
-        Plain plain = new Plain();
-        typeBoth(x, plain, 0, laws(random), seed);
-        typeBoth(x, plain, 1, dust(random), seed);
-        Method[] calls = calls();
-        for (int n = 0; n < 200; n++) {
-            Method call = calls[random.nextInt(calls.length)];
+    private void run() {
+        typeAll(0, laws(random));
+        typeAll(1, dust(random));
+        while (asked < MOST_CALLS - 1) {
+            Method call = CALLS[random.nextInt(CALLS.length)];
             boolean rare = call.getName().equals("wipe") || call.getName().equals("digest")
                 || call.getName().equals("forget") || call.getName().equals("type");
             if (rare && random.nextInt(4) != 0) {
                 continue;
             }
-            ask(call, arguments(call, random), x, plain, seed);
+            ask(call.getName(), arguments(call));
             if (random.nextInt(30) == 0 && plain.count(0) == 0) {
-                mendText(x, plain, 0, laws(random), seed);
-                mendText(x, plain, 1, dust(random), seed);
+                mendText(0, laws(random));
+                mendText(1, dust(random));
             }
         }
-        CHECK.due("seed " + seed + ": digest()", x.digest(), plain.digest());
+        CHECK.due("seed " + seed + ", the last call: digest()", x.digest(), plain.digest());
     }
 
-    private static void ask(Method call, Object[] with, SmallFirst x, Plain plain, int seed) throws Exception {
-        Method same = Plain.class.getMethod(call.getName(), call.getParameterTypes());
-        long got = ((Number) call.invoke(x, with)).longValue();
-        long want = ((Number) same.invoke(plain, with)).longValue();
-        CHECK.due("seed " + seed + ": " + call.getName() + Arrays.toString(with), got, want);
-    }
-
-    private static void typeBoth(SmallFirst x, Plain plain, int text, String bytes, int seed) {
-        for (char b : bytes.toCharArray()) {
-            CHECK.due("seed " + seed + ": type", x.type(text, b), plain.type(text, b));
-            CHECK.due("seed " + seed + ": fault", x.fault(text), plain.fault(text));
+    // One call is left for the digest.
+    private void ask(String call, int... with) {
+        if (asked < MOST_CALLS - 1) {
+            asked++;
+            CHECK.due("seed " + seed + ", call " + asked + ": " + call + Arrays.toString(with),
+                Calls.ask(x, call, with), Calls.ask(plain, call, with));
         }
     }
 
-    private static void mendText(SmallFirst x, Plain plain, int text, String bytes, int seed) {
-        CHECK.due("seed " + seed + ": wipe", x.wipe(text), plain.wipe(text));
-        typeBoth(x, plain, text, bytes, seed);
+    private void typeAll(int text, String bytes) {
+        for (char b : bytes.toCharArray()) {
+            ask("type", text, b);
+            if (random.nextInt(6) == 0) {
+                ask("fault", text);
+            }
+        }
+    }
+
+    private void mendText(int text, String bytes) {
+        ask("wipe", text);
+        typeAll(text, bytes);
     }
 
     private static String laws(Random random) {
@@ -95,8 +103,8 @@ public final class RandomRunsTest {
         return n == 13 ? text.substring(0, 35) : text.toString();
     }
 
-    private static Object[] arguments(Method call, Random random) {
-        Object[] with = new Object[call.getParameterCount()];
+    private int[] arguments(Method call) {
+        int[] with = new int[call.getParameterCount()];
         for (int i = 0; i < with.length; i++) {
             with[i] = argument(call.getName(), i, random);
         }
