@@ -15,6 +15,7 @@ public final class RefusalsTest {
     private static final Map<Supplier<SmallFirst>, List<List<Long>>> BEFORE = new HashMap<>();
 
     public static void main(String[] args) {
+        numbers();
         texts();
         notAndFull();
         things();
@@ -82,6 +83,23 @@ public final class RefusalsTest {
     }
 
     // ---- BAD, NOT and FULL
+
+    private static void numbers() {
+        CHECK.sentence("The public face", "public static final int NONE = -1, BAD = -2, NOT = -3, FULL = -4;");
+        CHECK.due("NONE", SmallFirst.NONE, -1);
+        CHECK.due("BAD", SmallFirst.BAD, -2);
+        CHECK.due("NOT", SmallFirst.NOT, -3);
+        CHECK.due("FULL", SmallFirst.FULL, -4);
+        CHECK.sentence("Parts", "They change nothing (FINDINGS but count() 8).");
+        refused(LIVED, -2, "type(2, 0)");
+        refused(NEW, -3, "undo(0)");
+        refused(MOST, -4, "seen(0, 0)");
+        refused(LIVED, -11, "read(3)");
+        refused(LIVED, -12, "put(0, 0, 6, 1)");
+        refused(LIVED, -13, "put(0, 1, 0, 1)");
+        refused(LIVED, -14, "copy(0, 0, 2, 0, 1)");
+        refused(LIVED, -15, "sheet(0, 0, -1)");
+    }
 
     private static void texts() {
         CHECK.sentence("Promise 2", "A byte (0 to 255) comes behind a text: how many. BAD; FULL.");
